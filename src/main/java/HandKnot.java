@@ -106,24 +106,22 @@ public final class HandKnot {
     // ---- the tangle
 
     public int feed(int a, int b, int c, int d, int e) {
-        if (!reader.hasRoom()) {
+        if (!reader.tape.hasRoom()) {
             return NONE;
         }
-        reader.takeBytes(a);
-        reader.takeBytes(b);
-        reader.takeBytes(c);
-        reader.takeBytes(d);
-        reader.takeBytes(e);
-        return reader.filled;
+        reader.tape.take(a);
+        reader.tape.take(b);
+        reader.tape.take(c);
+        reader.tape.take(d);
+        reader.tape.take(e);
+        return reader.tape.filled;
     }
 
     public int tangle(int n) {
-        if (n < 0 || n > reader.filled) {
+        if (n < 0 || n > reader.tape.filled) {
             return refuse(BAD_NUMBER);
         }
-        boolean good = reader.reads(n);
-        reader.filled = 0;
-        if (!good) {
+        if (!reader.reads(n)) {
             return refuse(FAULTY);
         }
         rings.trace(reader.told);
@@ -234,7 +232,7 @@ public final class HandKnot {
         if (!isDepth(d)) {
             return refuse(BAD_NUMBER);
         }
-        int k = search.toLoose(now, d);
+        int k = search.grow(now, d, true);
         return k == Search.OVER ? refuse(NO_ROOM) : grant(k);
     }
 
@@ -313,7 +311,7 @@ public final class HandKnot {
         for (int link = 0; link < rings.links; link++) {
             tried.become(now);
             tried.letGo(rings, link);
-            int k = search.toLoose(tried, d);
+            int k = search.grow(tried, d, true);
             if (k == Search.OVER) {
                 return k;
             }
@@ -345,7 +343,7 @@ public final class HandKnot {
             }
             tried.become(now);
             tried.turnOver(x);
-            int k = search.toLoose(tried, d);
+            int k = search.grow(tried, d, true);
             if (k == Search.OVER) {
                 return k;
             }
@@ -585,7 +583,7 @@ public final class HandKnot {
             return NONE;
         }
         if (what == 11) {
-            return reader.filled;
+            return reader.tape.filled;
         }
         if (!there) {
             return 0;
@@ -755,12 +753,12 @@ public final class HandKnot {
         }
     }
 
-    /** THE TAPE, and how a text on it is read from the left until its first FAULT. */
-    static final class Reader {
-        private static final int TAPE_ROOM = 900;
+    /** THE TAPE, and how it is cut into TOKENS. */
+    static final class Tape {
+        private static final int ROOM = 900;
         private static final int BYTES_A_FEED = 20;
         private static final int MOST_LETTERS = 8;
-        private static final int MOST_DIGITS = 3;
+        private static final int MOST_FIGURES = 3;
         private static final int BLANK = 32;
 
         private static final int END = 0;
@@ -769,6 +767,157 @@ public final class HandKnot {
         private static final int SEMICOLON = 3;
         private static final int NO_TOKEN = 4;
 
+        /** Words that mean something: the first four can't be NAMES. */
+        private static final int TANGLE = 0;
+        private static final int PERSON = 1;
+        private static final int HOLD = 2;
+        private static final int CROSS = 3;
+        private static final int TALL = 4;
+        private static final int ONCE = 5;
+        private static final int LEFT = 6;
+        private static final int RIGHT = 7;
+        private static final int OVER = 8;
+        private static final int PLUS = 9;
+        private static final int MINUS = 10;
+        private static final int OTHER = 11;
+
+        private final int[] bytes = new int[ROOM];
+        private int filled;
+
+        private final long[] words = new long[OTHER];
+        private final int[] kinds = new int[ROOM + 1];
+        private final int[] starts = new int[ROOM + 1];
+        /** Of a WHOLE its worth, of a WORD which one it is. */
+        private final int[] values = new int[ROOM + 1];
+        private final long[] spellings = new long[ROOM + 1];
+        private int count;
+
+        Tape() {
+            words[TANGLE] = spelling("tangle");
+            words[PERSON] = spelling("person");
+            words[HOLD] = spelling("hold");
+            words[CROSS] = spelling("cross");
+            words[TALL] = spelling("tall");
+            words[ONCE] = spelling("once");
+            words[LEFT] = spelling("left");
+            words[RIGHT] = spelling("right");
+            words[OVER] = spelling("over");
+            words[PLUS] = spelling("plus");
+            words[MINUS] = spelling("minus");
+        }
+
+        private static long spelling(String word) {
+            long spelt = 0;
+            for (int i = 0; i < word.length(); i++) {
+                spelt = withLetter(spelt, word.charAt(i));
+            }
+            return spelt;
+        }
+
+        /** Five bits a letter, so that eight of them make a number of their own. */
+        private static long withLetter(long spelt, int letter) {
+            return spelt << 5 | letter - 'a' + 1;
+        }
+
+        boolean hasRoom() {
+            return filled + BYTES_A_FEED <= ROOM;
+        }
+
+        void take(int fourBytes) {
+            for (int shift = 24; shift >= 0 && filled < ROOM; shift -= 8) {
+                bytes[filled] = fourBytes >>> shift & 255;
+                filled++;
+            }
+        }
+
+        /** Cuts the first n bytes up to the end, or to the first byte that begins no TOKEN; the tape is empty then. */
+        void cut(int n) {
+            int end = Math.min(n, ROOM);
+            count = 0;
+            int at = 0;
+            for (int i = 0; i <= end && at <= end; i++) {
+                while (at < end && bytes[at] == BLANK) {
+                    at++;
+                }
+                at = at < end ? cutOne(at, end) : ends(end);
+            }
+            filled = 0;
+        }
+
+        /** Both this and cutOne() answer where to go on: past the end if there is nothing more to cut. */
+        private int ends(int end) {
+            addToken(END, end, 0, 0);
+            return end + 1;
+        }
+
+        private int cutOne(int at, int end) {
+            int b = bytes[at];
+            int past = at + 1;
+            if (isLetter(b)) {
+                while (past < end && isLetter(bytes[past])) {
+                    past++;
+                }
+                if (past - at <= MOST_LETTERS) {
+                    addWord(at, past);
+                    return past;
+                }
+            } else if (isFigure(b)) {
+                while (past < end && isFigure(bytes[past])) {
+                    past++;
+                }
+                if (past - at <= MOST_FIGURES) {
+                    addWhole(at, past);
+                    return past;
+                }
+            } else if (b == ';') {
+                addToken(SEMICOLON, at, 0, 0);
+                return past;
+            }
+            addToken(NO_TOKEN, at, 0, 0);
+            return end + 1;
+        }
+
+        private static boolean isLetter(int b) {
+            return b >= 'a' && b <= 'z';
+        }
+
+        private static boolean isFigure(int b) {
+            return b >= '0' && b <= '9';
+        }
+
+        private void addWord(int at, int past) {
+            long spelt = 0;
+            for (int i = at; i < past; i++) {
+                spelt = withLetter(spelt, bytes[i]);
+            }
+            int which = 0;
+            while (which < OTHER && words[which] != spelt) {
+                which++;
+            }
+            addToken(WORD, at, which, spelt);
+        }
+
+        private void addWhole(int at, int past) {
+            int worth = 0;
+            for (int i = at; i < past; i++) {
+                worth = 10 * worth + bytes[i] - '0';
+            }
+            addToken(WHOLE, at, worth, 0);
+        }
+
+        private void addToken(int kind, int start, int value, long spelt) {
+            if (count <= ROOM) {
+                kinds[count] = kind;
+                starts[count] = start;
+                values[count] = value;
+                spellings[count] = spelt;
+                count++;
+            }
+        }
+    }
+
+    /** How a text is read from the left until its first FAULT. */
+    static final class Reader {
         private static final int FORM = 1;
         private static final int UNTOLD = 2;
         private static final int AGAIN = 3;
@@ -776,72 +925,68 @@ public final class HandKnot {
         private static final int MANY = 5;
         private static final int LACKS = 6;
 
+        private final Tape tape = new Tape();
         private final Told told = new Told();
-        private final int[] tape = new int[TAPE_ROOM];
-        private int filled;
-        private int end;
-        private int at;
         private int fault;
         private int place;
 
-        private int kind;
-        private int start;
-        /** What the TOKEN means: a WHOLE's worth, or the number of what a NAME or HAND stands for. */
-        private int value;
-        /** The letters of a WORD, five bits each. */
-        private long letters;
+        /** The TOKEN that is looked at. */
+        private int token;
+        /** The number of what was taken last: a WHOLE's worth, a PERSON, a LINK, a hand. */
+        private int taken;
+        private long name;
 
-        boolean hasRoom() {
-            return filled + BYTES_A_FEED <= TAPE_ROOM;
-        }
-
-        void takeBytes(int four) {
-            for (int shift = 24; shift >= 0 && filled < TAPE_ROOM; shift -= 8) {
-                tape[filled] = four >>> shift & 255;
-                filled++;
-            }
-        }
-
+        /** Whether the first n bytes are a TANGLE. */
         boolean reads(int n) {
+            tape.cut(n);
             told.clear();
-            end = Math.min(n, TAPE_ROOM);
-            at = 0;
             fault = 0;
             place = 0;
-            return readsLines();
-        }
-
-        private boolean isFaulty(int number) {
-            fault = number;
-            place = start;
-            return false;
-        }
-
-        private boolean readsLines() {
-            // Each LINE has a byte at least, so the text is over before the counter is.
-            for (int i = 0; i <= end; i++) {
+            token = NONE;
+            // Each LINE has a TOKEN at least, and the last TOKEN ends no LINE well but at the end.
+            for (int i = 0; i < tape.count; i++) {
                 if (!readsLine()) {
                     return false;
                 }
-                if (kind == END) {
-                    return told.lacksSomething() ? isFaulty(LACKS) : true;
+                if (kind() == Tape.END) {
+                    return !told.lacksSomething() || isFaulty(LACKS);
                 }
-                if (kind != SEMICOLON) {
+                if (kind() != Tape.SEMICOLON) {
                     return isFaulty(FORM);
                 }
             }
             return isFaulty(FORM);
         }
 
+        private boolean isFaulty(int number) {
+            fault = number;
+            place = tape.starts[token];
+            return false;
+        }
+
+        private void advance() {
+            if (token < tape.count - 1) {
+                token++;
+            }
+        }
+
+        private int kind() {
+            return tape.kinds[token];
+        }
+
+        private boolean isWord(int which) {
+            return tape.kinds[token] == Tape.WORD && tape.values[token] == which;
+        }
+
         /** A LINE, and the TOKEN behind it. */
         private boolean readsLine() {
             advance();
-            if (isWord("tangle")) {
-                return readsTangle() && endsTangle();
+            if (isWord(Tape.TANGLE)) {
+                return readsTangle();
             }
-            boolean person = isWord("person");
-            boolean hold = isWord("hold");
-            if (!person && !hold && !isWord("cross")) {
+            boolean person = isWord(Tape.PERSON);
+            boolean hold = isWord(Tape.HOLD);
+            if (!person && !hold && !isWord(Tape.CROSS)) {
                 return isFaulty(FORM);
             }
             if (!told.begun) {
@@ -858,17 +1003,13 @@ public final class HandKnot {
             if (told.begun) {
                 return isFaulty(AGAIN);
             }
-            if (!takesWord("tall") || !takesWhole(0, 99)) {
+            if (!takesWord(Tape.TALL) || !takesWhole(0, 99)) {
                 return false;
             }
             told.begun = true;
-            told.tall = value;
-            return true;
-        }
-
-        private boolean endsTangle() {
+            told.tall = taken;
             advance();
-            if (isWord("once")) {
+            if (isWord(Tape.ONCE)) {
                 told.once = true;
                 advance();
             }
@@ -882,11 +1023,11 @@ public final class HandKnot {
             if (!takesNewName()) {
                 return false;
             }
-            long name = letters;
-            if (!takesWord("tall") || !takesWhole(1, 99)) {
+            long personName = name;
+            if (!takesWord(Tape.TALL) || !takesWhole(1, 99)) {
                 return false;
             }
-            told.addPerson(name, value);
+            told.addPerson(personName, taken);
             return true;
         }
 
@@ -897,26 +1038,26 @@ public final class HandKnot {
             if (!takesNewName()) {
                 return false;
             }
-            long name = letters;
+            long linkName = name;
             if (!takesPerson()) {
                 return false;
             }
-            int person = value;
+            int person = taken;
             if (!takesHand(person)) {
                 return false;
             }
-            int hand = value;
+            int hand = taken;
             if (!takesPerson()) {
                 return false;
             }
-            int other = value;
+            int other = taken;
             if (other == person || told.once && told.areHeld(person, other)) {
                 return isFaulty(AGAIN);
             }
             if (!takesHand(other)) {
                 return false;
             }
-            told.addLink(name, hand, value);
+            told.addLink(linkName, hand, taken);
             return true;
         }
 
@@ -924,14 +1065,14 @@ public final class HandKnot {
             if (told.crossings >= MOST_CROSSINGS) {
                 return isFaulty(MANY);
             }
-            if (!takesPass(true) || !takesWord("over") || !takesPass(false)) {
+            if (!takesPass(true) || !takesWord(Tape.OVER) || !takesPass(false)) {
                 return false;
             }
             advance();
-            if (!isWord("plus") && !isWord("minus")) {
+            if (!isWord(Tape.PLUS) && !isWord(Tape.MINUS)) {
                 return isFaulty(FORM);
             }
-            told.addCrossing(isWord("plus"));
+            told.addCrossing(isWord(Tape.PLUS));
             return true;
         }
 
@@ -939,41 +1080,42 @@ public final class HandKnot {
             if (!takesLink()) {
                 return false;
             }
-            int link = value;
+            int link = taken;
             if (!takesWhole(1, MOST_PLACE)) {
                 return false;
             }
-            if (told.passOn(link, value) != 0) {
+            if (told.passOn(link, taken) != 0) {
                 return isFaulty(AGAIN);
             }
-            told.addPass(link, value, over);
+            told.addPass(link, taken, over);
             return true;
         }
 
-        private boolean takesWord(String word) {
+        private boolean takesWord(int which) {
             advance();
-            return isWord(word) || isFaulty(FORM);
+            return isWord(which) || isFaulty(FORM);
         }
 
         private boolean takesWhole(int least, int most) {
             advance();
-            if (kind != WHOLE) {
+            if (kind() != Tape.WHOLE) {
                 return isFaulty(FORM);
             }
-            return value >= least && value <= most || isFaulty(BOUNDS);
+            taken = tape.values[token];
+            return taken >= least && taken <= most || isFaulty(BOUNDS);
         }
 
         private boolean takesName() {
             advance();
-            boolean kept = isWord("tangle") || isWord("person") || isWord("hold") || isWord("cross");
-            return kind == WORD && !kept || isFaulty(FORM);
+            name = tape.spellings[token];
+            return kind() == Tape.WORD && tape.values[token] > Tape.CROSS || isFaulty(FORM);
         }
 
         private boolean takesNewName() {
             if (!takesName()) {
                 return false;
             }
-            boolean again = told.personNamed(letters) != NONE || told.linkNamed(letters) != NONE;
+            boolean again = told.personNamed(name) != NONE || told.linkNamed(name) != NONE;
             return !again || isFaulty(AGAIN);
         }
 
@@ -981,88 +1123,25 @@ public final class HandKnot {
             if (!takesName()) {
                 return false;
             }
-            value = told.personNamed(letters);
-            return value != NONE || isFaulty(UNTOLD);
+            taken = told.personNamed(name);
+            return taken != NONE || isFaulty(UNTOLD);
         }
 
         private boolean takesLink() {
             if (!takesName()) {
                 return false;
             }
-            value = told.linkNamed(letters);
-            return value != NONE || isFaulty(UNTOLD);
+            taken = told.linkNamed(name);
+            return taken != NONE || isFaulty(UNTOLD);
         }
 
         private boolean takesHand(int person) {
             advance();
-            if (!isWord("left") && !isWord("right")) {
+            if (!isWord(Tape.LEFT) && !isWord(Tape.RIGHT)) {
                 return isFaulty(FORM);
             }
-            value = 2 * person + (isWord("right") ? 1 : 0);
-            return !told.isHeld(value) || isFaulty(AGAIN);
-        }
-
-        private boolean isWord(String word) {
-            if (kind != WORD || at - start != word.length()) {
-                return false;
-            }
-            for (int i = 0; i < word.length(); i++) {
-                if (byteAt(start + i) != word.charAt(i)) {
-                    return false;
-                }
-            }
-            return true;
-        }
-
-        /** The byte at an index, a blank where the text is over. */
-        private int byteAt(int index) {
-            return index >= 0 && index < end && index < TAPE_ROOM ? tape[index] : BLANK;
-        }
-
-        private static boolean isLetter(int b) {
-            return b >= 'a' && b <= 'z';
-        }
-
-        private static boolean isDigit(int b) {
-            return b >= '0' && b <= '9';
-        }
-
-        private void advance() {
-            while (at < end && byteAt(at) == BLANK) {
-                at++;
-            }
-            start = at;
-            int b = byteAt(at);
-            if (at >= end) {
-                kind = END;
-            } else if (isLetter(b)) {
-                scanWord();
-            } else if (isDigit(b)) {
-                scanWhole();
-            } else if (b == ';') {
-                kind = SEMICOLON;
-                at++;
-            } else {
-                kind = NO_TOKEN;
-            }
-        }
-
-        private void scanWord() {
-            letters = 0;
-            while (at < end && isLetter(byteAt(at))) {
-                letters = letters << 5 | byteAt(at) - 'a' + 1;
-                at++;
-            }
-            kind = at - start <= MOST_LETTERS ? WORD : NO_TOKEN;
-        }
-
-        private void scanWhole() {
-            value = 0;
-            while (at < end && isDigit(byteAt(at))) {
-                value = at - start < MOST_DIGITS ? 10 * value + byteAt(at) - '0' : value;
-                at++;
-            }
-            kind = at - start <= MOST_DIGITS ? WHOLE : NO_TOKEN;
+            taken = 2 * person + (isWord(Tape.RIGHT) ? 1 : 0);
+            return !told.isHeld(taken) || isFaulty(AGAIN);
         }
     }
 
@@ -1389,7 +1468,16 @@ public final class HandKnot {
             }
             walkStart[rings.count] = walked;
             left = walked / 2;
-            listMoves();
+            count = 0;
+            for (int x = 0; x < rings.crossings; x++) {
+                listTurn(x);
+            }
+            for (int x = 0; x < rings.crossings; x++) {
+                listSlips(x);
+            }
+            for (int a = 0; a < rings.crossings; a++) {
+                listSteps(a);
+            }
         }
 
         boolean isOpen(int ring) {
@@ -1487,18 +1575,9 @@ public final class HandKnot {
             return seen;
         }
 
-        private void listMoves() {
-            count = 0;
-            for (int x = 0; x < rings.crossings; x++) {
-                if (has(overByUnder[x], x)) {
-                    addNumber(x);
-                }
-            }
-            for (int x = 0; x < rings.crossings; x++) {
-                listSlips(x);
-            }
-            for (int a = 0; a < rings.crossings; a++) {
-                listSteps(a);
+        private void listTurn(int x) {
+            if (has(overByUnder[x], x)) {
+                addNumber(x);
             }
         }
 
@@ -1543,9 +1622,11 @@ public final class HandKnot {
             }
         }
 
-        /** The LINK on which the first of the under passes of two CROSSINGS stands. */
+        /** The LINK on which the lesser STANDING of the under passes of two CROSSINGS is. */
         private int lowLink(int x, int y) {
-            return rings.standingLink[Math.min(standing[2 * x], standing[2 * y])];
+            int one = standing[2 * x];
+            int two = standing[2 * y];
+            return rings.standingLink[one < two ? one : two];
         }
 
         private boolean fits(int x, int y) {
@@ -1640,11 +1721,6 @@ public final class HandKnot {
             board = new Board(rings);
         }
 
-        /** FEWEST in d; OVER if it is refused. */
-        int toLoose(Moment from, int d) {
-            return grow(from, d, true);
-        }
-
         /** NEXT in d; OVER if FEWEST in d is refused. */
         int firstToLoose(Moment from, int d) {
             int k = grow(from, d, true);
@@ -1683,7 +1759,8 @@ public final class HandKnot {
             over = false;
         }
 
-        private int grow(Moment from, int d, boolean tillLoose) {
+        /** FEWEST in d, OVER if it is refused; or else, not only till it is LOOSE, all that is come to in d. */
+        int grow(Moment from, int d, boolean tillLoose) {
             forget();
             add(from.key, NONE, 0);
             if (tillLoose && looseAt != NONE) {
