@@ -257,8 +257,7 @@ public final class HandKnot {
         if (!isRing(ring) || !isRing(other) || ring == other) {
             return refuseSigned(NONE_SUCH);
         }
-        trouble = 0;
-        return board.signsBetween(ring, other);
+        return grant(board.signsBetween(ring, other));
     }
 
     public int colours(int p) {
@@ -1708,7 +1707,7 @@ public final class HandKnot {
 
         private final Board board;
         private final long[] keys = new long[ROOM];
-        /** The least of the first MOVES on shortest ways to each. */
+        /** The first MOVE on the way by which each was come to first: as lesser ones go first, the least one. */
         private final int[] firsts = new int[ROOM];
         private final int[] slots = new int[ROOM];
         /** 1 more than the index of the key that has this slot, 0 if none has. */
@@ -1724,7 +1723,10 @@ public final class HandKnot {
         /** NEXT in d; OVER if FEWEST in d is refused. */
         int firstToLoose(Moment from, int d) {
             int k = grow(from, d, true);
-            return k > 0 ? firsts[looseAt] : k == OVER ? OVER : NOTHING;
+            if (k == OVER) {
+                return OVER;
+            }
+            return k > 0 && looseAt >= 0 ? firsts[looseAt] : NOTHING;
         }
 
         int countReached(Moment from, int d) {
@@ -1762,7 +1764,7 @@ public final class HandKnot {
         /** FEWEST in d, OVER if it is refused; or else, not only till it is LOOSE, all that is come to in d. */
         int grow(Moment from, int d, boolean tillLoose) {
             forget();
-            add(from.key, NONE, 0);
+            add(from.key, NONE);
             if (tillLoose && looseAt != NONE) {
                 return 0;
             }
@@ -1770,7 +1772,7 @@ public final class HandKnot {
             for (int k = 1; k <= d && spread < count; k++) {
                 int known = count;
                 for (int i = spread; i < known && !over; i++) {
-                    spreadFrom(i, from, known);
+                    spreadFrom(i, from);
                 }
                 if (over) {
                     return OVER;
@@ -1783,23 +1785,20 @@ public final class HandKnot {
             return NOTHING;
         }
 
-        private void spreadFrom(int index, Moment from, int known) {
+        private void spreadFrom(int index, Moment from) {
             board.layOut(keys[index], from.plus, from.parted);
             for (int i = 0; i < board.count && !over; i++) {
                 int move = board.numbers[i];
-                add(board.after(move), index == 0 ? move : firsts[index], known);
+                add(board.after(move), index == 0 ? move : firsts[index]);
             }
         }
 
-        /** Those from index known on are of the level that grows now: only they may still get a lesser first MOVE. */
-        private void add(long key, int first, int known) {
+        private void add(long key, int first) {
             int slot = slotFor(key);
-            int index = table[slot] - 1;
-            if (index >= 0) {
-                if (index >= known && first < firsts[index]) {
-                    firsts[index] = first;
-                }
-            } else if (count >= ROOM) {
+            if (table[slot] != 0) {
+                return;
+            }
+            if (count >= ROOM) {
                 over = true;
             } else {
                 keys[count] = key;

@@ -112,6 +112,7 @@ public final class PromiseTest {
         acts();
         history();
         told();
+        noTrouble();
         trouble();
         System.out.println(wrong == 0 ? asked + " answers are as due" : wrong + " of " + asked + " answers are not as due");
         if (wrong != 0) System.exit(1);
@@ -160,12 +161,31 @@ public final class PromiseTest {
         refused(3, "bytes that begin no token", k, k.tangle(900), -1, 4);
         due(49, "the tape is empty", k.size(11), 0);
         due(2, "feed again", k.feed(0, 0, 0, 0, 0), 20);
+        full(k, ';', 1, 0);
+        full(k, ' ', 1, 900);
+        full(k, 'a', 1, 0);
+        full(k, '1', 1, 0);
+        HandKnot full = new HandKnot();
+        String text = SLIP + " ".repeat(899 - SLIP.length()) + ";";
+        feed(full, text);
+        due(3, "900 bytes", full.tangle(900), -1);
+        due(5, "the end of 900 bytes", full.where(), 900);
+        feed(full, text);
+        due(3, "899 of 900 bytes", full.tangle(899), 1);
         // the highest byte of each number first: "tang", "le t", "all ", "9 on", "ce;p"
         HandKnot h = new HandKnot();
         h.feed(0x74616e67, 0x6c652074, 0x616c6c20, 0x39206f6e, 0x63653b70);
         refused(3, "what comes behind the first n means nothing", h, h.tangle(18), -1, 4);
         due(4, "no person", h.fault(), 6);
         due(5, "at the end", h.where(), 18);
+    }
+
+    private static void full(HandKnot k, char all, int fault, int where) {
+        k.tangle(0);
+        feed(k, String.valueOf(all).repeat(900));
+        refused(3, "900 times " + all, k, k.tangle(900), -1, 4);
+        due(4, "900 times " + all, k.fault(), fault);
+        due(5, "900 times " + all, k.where(), where);
     }
 
     private static void texts() {
@@ -425,11 +445,21 @@ public final class PromiseTest {
         due(40, "two crossings stand on l", h.parts(0), 2);
         due(15, "loose", h.loose(), 1);
         due(40, "a link with nothing", of(HOPF).parts(3), 0);
-        // a step brings what was on l to m: parting l takes what stands there now
+        // 0 stands on l, 1 on both, 2 on m
         HandKnot s = of(TWO + ";cross l 1 over l 2 plus;cross l 3 over m 9 plus;cross m 8 over m 7 minus");
         due(40, "by what stands on it", s.parts(0), 2);
         due(14, "left then", s.left(), 1);
         due(13, "that one", s.sign(2), -1);
+        // under 2 is told on m, but a step brings under 1 there
+        String split = STEP.replace("over l 6", "over m 9");
+        HandKnot told = of(split);
+        told.parts(1);
+        due(40, "as told", told.sign(2), 0);
+        HandKnot stepped = of(split);
+        stepped.move(1012);
+        due(40, "by what stands there now", stepped.parts(1), 1);
+        due(40, "not what was told there", stepped.sign(1), 0);
+        due(12, "a standing stays on its link", stepped.place(5, 1), 1);
     }
 
     private static void searches() {
@@ -867,6 +897,37 @@ public final class PromiseTest {
         for (int i = 0; i < sizes.length; i++) due(49, "size " + i, k.size(i), sizes[i]);
         due(49, "size 12", k.size(12), -1);
         due(49, "size -1", k.size(-1), -1);
+    }
+
+    private interface Call {
+        void on(HandKnot k);
+    }
+
+    /** Calls that aren't refused, each behind one that was. */
+    private static void noTrouble() {
+        Call[] calls = {k -> k.ring(0), k -> k.people(0), k -> k.member(0, 0), k -> k.holds(0, true), k -> k.along(0),
+            k -> k.stands(0), k -> k.place(0, 0), k -> k.sign(0), k -> k.left(), k -> k.loose(), k -> k.may(0),
+            k -> k.goer(102), k -> k.moves(), k -> k.moveAt(0), k -> k.fewest(0), k -> k.next(1), k -> k.caller(),
+            k -> k.hang(0, 1), k -> k.colours(3), k -> k.cannot(), k -> k.part(0), k -> k.lift(0), k -> k.twist(0),
+            k -> k.arcs(), k -> k.reached(0), k -> k.few(0), k -> k.sees(0), k -> k.own(0), k -> k.rounds(0),
+            k -> k.tries(0, 1, 0), k -> k.ways(2, 0, true), k -> k.odds(3, 0, true, true), k -> k.mean(3, true, true),
+            k -> k.move(102), k -> k.parts(0), k -> k.lifts(0), k -> k.lot(), k -> k.call(), k -> k.seed(0),
+            k -> k.mark()};
+        String text = FOUR + ";cross l 1 over p 1 plus;cross l 5 over l 6 plus;cross l 2 over p 2 minus";
+        for (int i = 0; i < calls.length; i++) {
+            HandKnot k = of(text);
+            k.seed(-1);
+            calls[i].on(k);
+            due(50, "call " + i + " that isn't refused", k.trouble(), 0);
+        }
+        HandKnot k = of(text);
+        k.seed(-1);
+        read(k, text);
+        due(50, "a text that isn't refused", k.trouble(), 0);
+        k.mark();
+        k.seed(-1);
+        k.back(0);
+        due(50, "a mark that isn't refused", k.trouble(), 0);
     }
 
     /** Calls of which no number is told leave TROUBLE as it is. */
