@@ -19,10 +19,14 @@ public final class PromiseTest {
     private static final String WIDER = tall(2) + ";cross la 1 over lc 1 plus;cross la 3 over lc 9 plus;"
         + "cross lc 7 over lc 6 minus;cross ld 9 over ld 7 minus;cross la 7 over lc 8 plus;cross la 5 over ld 6 plus;"
         + "cross la 2 over la 6 minus";
-    /** 3,974 by 8: there is still room for these. */
-    private static final String NEARLY = tall(2) + ";cross la 6 over lc 5 plus;cross lc 7 over lc 6 minus;"
-        + "cross la 3 over ld 6 plus;cross la 8 over ld 8 plus;cross la 1 over lb 9 minus;cross lb 5 over lb 7 minus;"
-        + "cross la 9 over ld 7 minus";
+    /** 4,000 by 8: there is still room for these. */
+    private static final String ENOUGH = three(9, 1, 9) + ";cross la 5 over lb 5 minus;cross lc 4 over lb 2 minus;"
+        + "cross la 1 over lb 8 plus;cross lc 3 over lb 4 plus;cross la 8 over lc 2 plus;cross lc 9 over lb 9 minus;"
+        + "cross lc 5 over lb 1 plus";
+    /** 4,001 by 8: one too many. */
+    private static final String TOO_MANY = three(1, 9, 9) + ";cross lb 2 over lc 4 plus;cross lb 5 over la 1 plus;"
+        + "cross lb 9 over lb 1 minus;cross lb 3 over lc 3 minus;cross lc 1 over lc 6 plus;cross la 5 over la 2 plus;"
+        + "cross lb 4 over lc 7 minus";
 
     private static int wrong;
     private static int asked;
@@ -58,6 +62,12 @@ public final class PromiseTest {
             s.append(";hold l" + p + " p" + p + " left p" + o + " left;hold l" + o + " p" + p + " right p" + o + " right");
         }
         return s.toString();
+    }
+
+    /** A RING of three, so tall, where 5 is the tallest that may go. */
+    private static String three(int a, int b, int c) {
+        return "tangle tall 5;person pa tall " + a + ";person pb tall " + b + ";person pc tall " + c
+            + ";hold la pa left pb right;hold lb pb left pc right;hold lc pc left pa right";
     }
 
     private static void feed(HandKnot k, String text) {
@@ -518,10 +528,15 @@ public final class PromiseTest {
         refused(21, "next, too many", w, w.next(8), -1, 3);
         due(30, "by 7", w.reached(7), 2613);
         due(21, "next by 7", w.next(7), -2);
-        HandKnot n = of(NEARLY);
-        due(30, "just room enough", n.reached(8), 3974);
-        due(20, "fewest with room enough", n.fewest(8) == -1 ? 1 : 0, 0);
-        // what lifting a crossing of WIDER and lifting it again comes to
+        due(30, "just room enough", of(ENOUGH).reached(8), 4000);
+        HandKnot t = of(TOO_MANY);
+        refused(30, "one too many", t, t.reached(8), -1, 3);
+        refused(31, "one too many for few", t, t.few(8), -1, 3);
+        // a third ring on which nothing stands: parting it changes nothing of the others
+        HandKnot p = of(WIDER.replace(tall(2), tall(3)));
+        refused(26, "part, behind some too many", p, p.part(8), -1, 3);
+        due(26, "part by fewer", p.part(7), 0);
+        // lifting what was lifted is behind some of the lifts, and there are too many then
         HandKnot u = of(WIDER);
         u.lifts(0);
         refused(27, "lift, behind some too many", u, u.lift(8), -1, 3);
