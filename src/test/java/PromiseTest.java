@@ -536,6 +536,7 @@ public final class PromiseTest {
         HandKnot p = of(WIDER.replace(tall(2), tall(3)));
         refused(26, "part, behind some too many", p, p.part(8), -1, 3);
         due(26, "part by fewer", p.part(7), 0);
+        due(26, "behind no link too many", of(WIDER).part(8), 0);
         // lifting what was lifted is behind some of the lifts, and there are too many then
         HandKnot u = of(WIDER);
         u.lifts(0);
