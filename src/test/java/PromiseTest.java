@@ -1,16 +1,5 @@
-import java.util.NoSuchElementException;
-
 /** For each promise of the document what would not be so if it were broken. */
-public final class PromiseTest {
-    private static final String TWO = "tangle tall 50;person a tall 40;person b tall 60;"
-        + "hold l a left b left;hold m a right b right";
-    private static final String SLIP = TWO + ";cross l 1 over m 5 plus;cross l 2 over m 4 minus";
-    private static final String TREFOIL = TWO + ";cross l 1 over l 4 plus;cross l 5 over l 2 plus;cross l 3 over l 6 plus";
-    private static final String STEP = TWO + ";cross l 1 over l 3 plus;cross l 2 over l 5 plus;cross l 4 over l 6 minus";
-    private static final String NEST = TWO + ";cross l 1 over l 4 plus;cross l 2 over l 3 plus";
-    private static final String FOUR = "tangle tall 50;person a tall 1;person b tall 1;person c tall 1;person d tall 1;"
-        + "hold l a left b left;hold m a right b right;hold p c left d left;hold q c right d right";
-    private static final String HOPF = FOUR + ";cross l 1 over p 1 plus;cross p 2 over l 2 plus";
+public final class PromiseTest extends Checks {
     /** More than 4,000 TANGLES by 8 MOVES, but it is LOOSE by 5. */
     private static final String WIDE = tall(2) + ";cross ld 6 over lc 1 minus;cross la 6 over la 2 minus;"
         + "cross lc 6 over la 5 plus;cross lc 8 over lc 7 minus;cross lc 5 over lb 8 plus;cross ld 7 over la 7 minus;"
@@ -28,31 +17,6 @@ public final class PromiseTest {
         + "cross lb 9 over lb 1 minus;cross lb 3 over lc 3 minus;cross lc 1 over lc 6 plus;cross la 5 over la 2 plus;"
         + "cross lb 4 over lc 7 minus";
 
-    private static int wrong;
-    private static int asked;
-
-    private static void due(int promise, String what, long is, long want) {
-        asked++;
-        if (is != want) {
-            wrong++;
-            System.out.println("promise " + promise + ": " + what + " answered " + is + ", due is " + want);
-        }
-    }
-
-    private static void due(int promise, String what, boolean is, boolean want) {
-        due(promise, what, is ? 1 : 0, want ? 1 : 0);
-    }
-
-    /** That a call was refused, and by which number. */
-    private static void refused(int promise, String what, HandKnot k, long is, long want, int trouble) {
-        due(promise, what, is, want);
-        due(promise, what + ", trouble", k.trouble(), trouble);
-    }
-
-    private static void refused(int promise, String what, HandKnot k, boolean is, int trouble) {
-        refused(promise, what, k, is ? 1 : 0, 0, trouble);
-    }
-
     /** RINGS of two, each with a LINK between left hands and one between right hands. */
     private static String tall(int rings) {
         StringBuilder s = new StringBuilder("tangle tall 99");
@@ -68,39 +32,6 @@ public final class PromiseTest {
     private static String three(int a, int b, int c) {
         return "tangle tall 5;person pa tall " + a + ";person pb tall " + b + ";person pc tall " + c
             + ";hold la pa left pb right;hold lb pb left pc right;hold lc pc left pa right";
-    }
-
-    private static void feed(HandKnot k, String text) {
-        int[] all = Texts.fed(text, ' ');
-        for (int i = 0; i < all.length; i += 5) k.feed(all[i], all[i + 1], all[i + 2], all[i + 3], all[i + 4]);
-    }
-
-    private static int read(HandKnot k, String text) {
-        feed(k, text);
-        return k.tangle(text.length());
-    }
-
-    private static HandKnot of(String text) {
-        HandKnot k = new HandKnot();
-        if (read(k, text) < 0) throw new IllegalStateException(k.fault() + " at " + k.where() + ": " + text);
-        return k;
-    }
-
-    private static void faulty(String text, int fault, int where) {
-        HandKnot k = new HandKnot();
-        refused(3, text, k, read(k, text), -1, 4);
-        due(4, text, k.fault(), fault);
-        due(5, text, k.where(), where);
-    }
-
-    private static String times(int n, String line) {
-        StringBuilder s = new StringBuilder();
-        for (int i = 0; i < n; i++) s.append(line.replace('#', (char) ('a' + i)).replace('$', (char) ('a' + (i + 1) % n)));
-        return s.toString();
-    }
-
-    private static String ringOf(int n, String once) {
-        return "tangle tall 50" + once + times(n, ";person p# tall 9") + times(n, ";hold h# p# left p$ right");
     }
 
     public static void main(String[] args) {
@@ -124,8 +55,7 @@ public final class PromiseTest {
         told();
         noTrouble();
         trouble();
-        System.out.println(wrong == 0 ? asked + " answers are as due" : wrong + " of " + asked + " answers are not as due");
-        if (wrong != 0) System.exit(1);
+        end();
     }
 
     private static void newObject() {
@@ -889,14 +819,6 @@ public final class PromiseTest {
         m.move(0);
         m.undo();
         due(46, "marks stay when an act is undone", m.size(10), 1);
-    }
-
-    private static int led(HandKnot k, int i) {
-        try {
-            return k.led(i);
-        } catch (NoSuchElementException e) {
-            return -7;
-        }
     }
 
     private static void told() {
