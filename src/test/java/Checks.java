@@ -78,6 +78,24 @@ class Checks {
         }
     }
 
+    /** All that calls show of what stands, but TROUBLE and where(), which each call may change. */
+    static String seen(HandKnot k) {
+        StringBuilder s = new StringBuilder();
+        for (int i = 0; i < 12; i++) s.append(k.size(i)).append(' ');
+        for (int i = 0; i < 14; i++) s.append(k.stands(i)).append(' ').append(k.place(i, 0)).append(' ').append(k.place(i, 1)).append(' ');
+        for (int i = 0; i < 8; i++) {
+            s.append(k.sign(i)).append(' ').append(k.twist(i)).append(' ').append(k.hang(0, i)).append(' ').append(led(k, i)).append(' ');
+            s.append(k.ring(i)).append(' ').append(k.people(i)).append(' ').append(k.member(0, i)).append(' ').append(k.along(i)).append(' ');
+            s.append(k.holds(i, false)).append(' ').append(k.holds(i, true)).append(' ').append(k.sees(i)).append(' ').append(k.own(i)).append(' ');
+        }
+        for (int i = 0; i <= k.moves(); i++) s.append(k.moveAt(i)).append(' ').append(k.goer(k.moveAt(i))).append(' ');
+        s.append(k.left()).append(' ').append(k.loose()).append(' ').append(k.caller()).append(' ').append(k.cannot()).append(' ');
+        s.append(k.arcs()).append(' ').append(k.colours(3)).append(' ').append(k.colours(5)).append(' ').append(k.colours(7)).append(' ');
+        s.append(k.fewest(3)).append(' ').append(k.next(3)).append(' ').append(k.reached(3)).append(' ').append(k.few(3)).append(' ');
+        s.append(k.part(1)).append(' ').append(k.lift(1)).append(' ').append(k.rounds(1)).append(' ').append(k.tries(7, 5, 3));
+        return s.append(" fault ").append(k.fault()).toString();
+    }
+
     /** Tells how many answers were wrong, and ends with 1 if one was. */
     static void end() {
         System.out.println(wrong == 0 ? asked + " answers are as due" : wrong + " of " + asked + " answers are not as due");
