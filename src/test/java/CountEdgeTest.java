@@ -15,6 +15,7 @@ public final class CountEdgeTest extends Checks {
         searchesOfNone();
         shortestWays();
         callers();
+        callersOfAll();
         hang();
         twist();
         numbersOfColours();
@@ -23,7 +24,9 @@ public final class CountEdgeTest extends Checks {
         cannot();
         parts();
         lifts();
+        liftsOfWhatIsLeft();
         sees();
+        seesAllOfIt();
         rounds();
         secondRound();
         tries();
@@ -129,6 +132,25 @@ public final class CountEdgeTest extends Checks {
         due(43, "called", s.call(), 112);
         due(22, "nothing but the other two: the first", s.caller(), 0);
         due(14, "asking changes nothing", s.left(), 3);
+        // a turn and the turn round it leave two fewer, as a step and a slip do
+        due(22, "as few by two that turn: the first", of(STEP + ";cross m 1 over m 4 plus;cross m 2 over m 3 plus").caller(), 4);
+    }
+
+    /** Though all seven are left behind it, and behind the next. */
+    private static void callersOfAll() {
+        HandKnot k = of("tangle tall 9" + times(8, ";person p# tall 9") + ";hold ha pa left pb right;hold hb pb left pc right;"
+            + "hold hc pc left pd right;hold hd pd left pe right;hold he pe left pf right;hold hf pf left pa right;"
+            + "hold hg pg left ph left;hold hh pg right ph right;cross ha 1 over hb 1 plus;cross ha 2 over hc 1 plus;"
+            + "cross hb 2 over hc 2 plus;cross ha 3 over hg 1 plus;cross hg 2 over hb 3 plus;cross hd 1 over hg 3 plus;"
+            + "cross hg 4 over hd 2 plus");
+        due(18, "just steps", k.moves(), 2);
+        due(19, "the first", k.moveAt(0), 1012);
+        due(31, "all are left behind two", k.few(2), 7);
+        due(22, "the first step is called", k.caller(), 1012);
+        due(33, "it is b's own", k.own(1), 1012);
+        due(33, "a doesn't see c's", k.own(0), -2);
+        due(43, "it is made", k.call(), 1012);
+        due(14, "seven", k.left(), 7);
     }
 
     // ---- HANG, TWIST
@@ -259,6 +281,7 @@ public final class CountEdgeTest extends Checks {
         due(26, "m at once", k.part(0), 1);
         due(26, "either at once: the first", of(TWO + ";cross l 1 over m 2 plus").part(8), 0);
         due(26, "the last link of eight", of(ringOf(8, "") + ";cross hh 1 over hh 2 plus").part(8), 7);
+        due(26, "the first is best, the second does too", of(NEST).part(8), 0);
         due(26, "none at once", of(SEVEN).part(0), -2);
         due(26, "none in 5", of(SEVEN).part(5), -2);
         due(26, "the first that turns one less", of(SEVEN).part(6), 0);
@@ -294,6 +317,18 @@ public final class CountEdgeTest extends Checks {
         due(27, "in 6", last.lift(6), 5);
     }
 
+    private static void liftsOfWhatIsLeft() {
+        HandKnot k = of(TWO + ";cross l 4 over l 1 minus;cross l 2 over l 3 minus;cross m 1 over m 2 plus");
+        due(20, "three that turn", k.fewest(8), 3);
+        due(27, "a slip and a turn; the last does too, in three", k.lift(8), 0);
+        HandKnot n = of(NEST);
+        n.move(0);
+        due(27, "one is gone, the other turns, lifted or not", n.lift(8), 1);
+        n.move(1);
+        due(27, "both are gone", n.lift(8), -2);
+        due(27, "loose at once, but none is left", n.lift(0), -2);
+    }
+
     // ---- SEES, OWN, ROUNDS, TRIES
 
     private static void sees() {
@@ -321,6 +356,26 @@ public final class CountEdgeTest extends Checks {
         k.parts(0);
         due(32, "what is gone isn't seen", k.sees(0), 24);
         due(33, "nor made", k.own(1), -2);
+    }
+
+    /** Not two of three that step, and not one of two that slip, whichever is lacking. */
+    private static void seesAllOfIt() {
+        HandKnot slip = of(ringOf(4, "") + ";cross ha 2 over hb 1 minus;cross ha 1 over ha 3 plus;cross hd 1 over hd 2 plus");
+        due(32, "c sees the first", slip.sees(2), 1);
+        due(33, "not the second", slip.own(2), -2);
+        due(33, "b sees both", slip.own(1), 101);
+        // one pair of neighbours on each of three links: the first link that a has is another each time
+        String[] orders = {"abc", "bca", "cab"};
+        int[] sees = {3, 5, 6};
+        for (int i = 0; i < 3; i++) {
+            String text = ringOf(4, "") + ";cross hX 1 over hY 1 plus;cross hX 2 over hZ 1 plus;cross hY 2 over hZ 2 plus";
+            HandKnot k = of(text.replace('X', orders[0].charAt(orders[i].indexOf('a'))).replace('Y', orders[0].charAt(orders[i].indexOf('b')))
+                .replace('Z', orders[0].charAt(orders[i].indexOf('c'))));
+            due(16, "a step, order " + i, k.may(1012), 1);
+            due(32, "a sees two, order " + i, k.sees(0), sees[i]);
+            due(33, "two aren't enough, order " + i, k.own(0), -2);
+            due(33, "b sees all, order " + i, k.own(1), 1012);
+        }
     }
 
     private static void rounds() {

@@ -22,6 +22,7 @@ public final class KnotEdgeTest extends Checks {
         goersOfSteps();
         goersBetweenRings();
         openRing();
+        openAnywhere();
         otherRingStaysClosed();
         partedOnce();
         everyLinkParts();
@@ -349,6 +350,25 @@ public final class KnotEdgeTest extends Checks {
         due(16, "closed again", k.may(0), 1);
         due(29, "its arcs", k.arcs(), 2);
         due(49, "nothing is parted", k.size(7), -2);
+    }
+
+    /** Whichever LINK is parted, the two on both sides of it aren't BESIDE each other over it. */
+    private static void openAnywhere() {
+        for (int l = 0; l < 8; l++) {
+            String ahead = "h" + (char) ('a' + (l + 7) % 8);
+            String behind = "h" + (char) ('a' + (l + 1) % 8);
+            HandKnot k = of(ringOf(8, "") + ";cross " + ahead + " 9 over " + behind + " 1 plus;cross " + ahead + " 1 over " + behind + " 9 plus");
+            due(16, "over link " + l, k.may(0), 1);
+            due(16, "round from link " + l, k.may(1), 1);
+            due(40, "nothing stands on link " + l, k.parts(l), 0);
+            due(16, "not over link " + l, k.may(0), 0);
+            due(16, "still round from link " + l, k.may(1), 1);
+            due(29, "one arc more, open at " + l, k.arcs(), 3);
+            due(20, "by two, open at " + l, k.fewest(8), 2);
+            due(21, "the outer one first, open at " + l, k.next(8), 1);
+            due(22, "it is called, open at " + l, k.caller(), 1);
+            due(34, "in two rounds, or by two in one, open at " + l, k.rounds(2), 0);
+        }
     }
 
     private static void otherRingStaysClosed() {

@@ -304,15 +304,14 @@ public final class RefusedTest extends Checks {
         Call[] acts = {k -> k.move(1), k -> k.parts(0), k -> k.parts(3), k -> k.lifts(2), k -> k.lot(), k -> k.call()};
         int[] promises = {39, 40, 40, 41, 42, 43};
         for (int i = 0; i < acts.length; i++) {
-            HandKnot k = of(BUSY);
-            k.seed(65536);
-            k.lifts(4);
-            String before = seen(k);
+            HandKnot k = lifted();
+            String before = seen(lifted());
             acts[i].on(k);
             due(promises[i], "not refused, act " + i, k.trouble(), 0);
             due(49, "two can be undone, act " + i, k.size(9), 2);
             due(promises[i], "something is changed, act " + i, seen(k).equals(before), false);
             k.seed(12345);
+            k.seed(-1);
             due(45, "undone, act " + i, k.undo(), true);
             due(45, "not refused, act " + i, k.trouble(), 0);
             due(45, "all is as ahead of it, act " + i, seen(k).equals(before), true);
@@ -320,6 +319,13 @@ public final class RefusedTest extends Checks {
             due(13, "as told, act " + i, k.sign(4), -1);
             refused(45, "no more, act " + i, k, k.undo(), 6);
         }
+    }
+
+    private static HandKnot lifted() {
+        HandKnot k = of(BUSY);
+        k.seed(65536);
+        k.lifts(4);
+        return k;
     }
 
     private static void actsThatAreKept() {
@@ -339,8 +345,14 @@ public final class RefusedTest extends Checks {
         HandKnot k = of(TREFOIL);
         for (int i = 0; i < 17; i++) k.lifts(0);
         due(46, "a mark", k.mark(), 0);
+        k.seed(-1);
+        due(44, "a seed that isn't refused", k.seed(3), true);
+        due(50, "not refused", k.trouble(), 0);
         due(49, "a mark keeps acts", k.size(9), 16);
+        k.seed(-1);
         due(47, "back", k.back(0), true);
+        due(50, "back isn't refused", k.trouble(), 0);
+        due(44, "the seed as by the mark", k.size(8), 0);
         refused(45, "gone back, nothing can be undone", k, k.undo(), 6);
         k.lifts(1);
         due(45, "but what is done behind it", k.undo(), true);

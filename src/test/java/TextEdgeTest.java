@@ -17,6 +17,7 @@ public final class TextEdgeTest extends Checks {
         keptWords();
         namesAgain();
         namesNotTold();
+        namesAlike();
         hands();
         byOnce();
         places();
@@ -254,6 +255,20 @@ public final class TextEdgeTest extends Checks {
         behind(HELD, ";cross a 1 over l 2 plus", 2, 7);
         behind(HELD, ";cross l 1 over b 2 plus", 2, 16);
         behind(HELD, ";cross l 1 over over 2 plus", 2, 16);
+    }
+
+    /** Unlike NAMES, however much alike: neither is told again, and neither is told by the other. */
+    private static void namesAlike() {
+        for (char c = 'a'; c <= 'z'; c++) {
+            for (char d = 'a'; d <= 'z'; d++) {
+                String[] others = {"" + c + d, "" + d + d + c, "a" + c + d + "zzzzz"};
+                for (String other : others) {
+                    String one = "tangle tall 9;person " + c + " tall 1";
+                    behind(one, ";person " + other + " tall 1", 6, 15 + other.length());
+                    behind(one, ";hold link " + other, 2, 11);
+                }
+            }
+        }
     }
 
     // ---- who holds whom
