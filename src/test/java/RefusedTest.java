@@ -48,6 +48,7 @@ public final class RefusedTest extends Checks {
         acts();
         actsThatAreKept();
         askingChangesNothing();
+        lastCall();
         end();
     }
 
@@ -376,5 +377,18 @@ public final class RefusedTest extends Checks {
             due(50, "call " + i + " isn't refused", k.trouble(), 0);
             due(50, "call " + i + " changes nothing", seen(k).equals(before), true);
         }
+    }
+
+    /** An object is used for at most 512 calls: the last one is answered still. */
+    private static void lastCall() {
+        HandKnot k = of(TREFOIL);
+        int calls = k.size(11) + (TREFOIL.length() + 19) / 20 + 2;
+        int lifts = 0;
+        while (calls < 511) {
+            k.lifts(0);
+            lifts++;
+            calls++;
+        }
+        due(41, "the 512th call", k.lifts(0), lifts % 2 == 0 ? -1 : 1);
     }
 }
