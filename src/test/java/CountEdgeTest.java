@@ -8,10 +8,17 @@ public final class CountEdgeTest extends Checks {
     /** 0 turns, 1 and 2 slip, 3 and 4 slip. */
     private static final String SLIPS = ringOf(4, "") + ";cross ha 1 over ha 2 plus;cross ha 3 over hb 1 plus;"
         + "cross ha 4 over hb 2 minus;cross hc 1 over hd 1 plus;cross hc 2 over hd 2 minus";
+    /** LOOSE by eight MOVES, not by seven; of all such texts that were found, most can be come to by this one. */
+    private static final String EIGHT = "tangle tall 9;person a tall 1;person b tall 1;hold l a left b left;"
+        + "hold m b right a right;cross m 6 over m 1 plus;cross m 7 over l 7 plus;cross l 2 over l 5 plus;"
+        + "cross l 1 over m 5 plus;cross l 6 over m 2 plus;cross l 3 over m 3 minus;cross l 4 over m 4 plus";
 
     public static void main(String[] args) {
         depths();
         searchesOfSeven();
+        searchesOfEight();
+        wayOfEight();
+        liftToEight();
         searchesOfNone();
         shortestWays();
         callers();
@@ -71,6 +78,49 @@ public final class CountEdgeTest extends Checks {
         due(20, "one less", k.fewest(6), 6);
         due(21, "the next one", k.next(6), 1);
         due(14, "asking changes nothing", k.left(), 6);
+    }
+
+    /** LOOSE comes at the last depth that there is. */
+    private static void searchesOfEight() {
+        HandKnot k = of(EIGHT);
+        int[] reached = {1, 7, 27, 80, 204, 444, 919, 1730, 3144};
+        int[] few = {7, 5, 4, 4, 3, 3, 2, 1, 0};
+        for (int d = 0; d <= 8; d++) {
+            due(20, "loose by eight: fewest in " + d, k.fewest(d), d < 8 ? -2 : 8);
+            if (d > 0) due(21, "loose by eight: next in " + d, k.next(d), d < 8 ? -2 : 156);
+            due(30, "loose by eight: reached in " + d, k.reached(d), reached[d]);
+            due(31, "loose by eight: few in " + d, k.few(d), few[d]);
+        }
+        due(25, "loose by eight: nothing against it", k.cannot(), 0);
+    }
+
+    /** Each NEXT leads to where FEWEST is one less; all of them are undone again. */
+    private static void wayOfEight() {
+        HandKnot k = of(EIGHT);
+        int[] way = {156, 2, 1104, 4, 1103, 0, 1, 3};
+        for (int i = 0; i < way.length; i++) {
+            int d = way.length - i;
+            due(20, "on the way: fewest in " + d, k.fewest(d), d);
+            due(20, "on the way: not by one less than " + d, k.fewest(d - 1), -2);
+            due(21, "on the way: next in " + d, k.next(d), way[i]);
+            due(21, "on the way: next in 8", k.next(8), way[i]);
+            due(39, "on the way: " + way[i], k.move(way[i]), new int[] {5, 4, 4, 3, 3, 2, 1, 0}[i]);
+        }
+        due(15, "at its end", k.loose(), 1);
+        due(21, "no next", k.next(8), -2);
+        for (int i = 0; i < way.length; i++) due(45, "back again", k.undo(), true);
+        due(20, "by eight again", k.fewest(8), 8);
+    }
+
+    /** One CROSSING the wrong way about: LIFTED, it is LOOSE by eight; without, never in eight. */
+    private static void liftToEight() {
+        HandKnot k = of(EIGHT);
+        due(41, "the wrong way about", k.lifts(5), 1);
+        due(20, "never in eight", k.fewest(8), -2);
+        due(27, "lifted again, in just eight", k.lift(8), 5);
+        due(27, "none does in seven", k.lift(7), -2);
+        due(50, "which is no refusal", k.trouble(), 0);
+        due(13, "asking lifts nothing", k.sign(5), 1);
     }
 
     private static void searchesOfNone() {
