@@ -53,6 +53,10 @@ public final class TextEdgeTest extends Checks {
         due(2, "there would be more than 900", k.feed(0x3b3b3b3b, 0x3b3b3b3b, 0x3b3b3b3b, 0x3b3b3b3b, 0x3b3b3b3b), -1);
         due(2, "none comes", k.size(11), 900);
         due(2, "refused again", k.feed(0, 0, 0, 0, 0), -1);
+        due(50, "by no number: that of loose() stays", k.trouble(), 1);
+        k.tangle(901);
+        due(2, "and once again", k.feed(0, 0, 0, 0, 0), -1);
+        due(50, "that of tangle() stays", k.trouble(), 2);
         due(3, "all 900, and none of those refused", k.tangle(900), 1);
         due(3, "the tape is empty then", k.size(11), 0);
         due(2, "from the first byte on", k.feed(0, 0, 0, 0, 0), 20);
